@@ -287,6 +287,7 @@ final class ChangesTest {
         command("equal 1 9999;", 1, table + "1=9999");
         command("greater 0 5;", 1, table + "0>5");
         command("less 0 1;equal 0 2;greater 0 3;drop 0;", 4, table + "0=2 0>3");
+        command("less 0 9;drop 0;", 2, table);
         command("delete;", 1, "table 3;|1 5 9|-2 0 4|3 7|");
         command("delete;compact 1;", 2, "table 3;|1 5 9||3 7|");
         command("equal 2 3;delete;", 2, "table 3;5 -2 7;1 -2 7;9 -2 7;5 0 7;|1 5 9|-2 0 4|3 7|2=3");

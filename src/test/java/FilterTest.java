@@ -66,6 +66,10 @@ final class FilterTest {
         range("less than much", -1, 9999, 0, 3);
         range("equal", 0, 5, 1, 2);
         range("equal to the greatest", 0, 9, 2, 3);
+        PackedTable neighbours = Check.loaded("table 1;4;5;6;");
+        neighbours.addEqual(0, 5);
+        Check.same("28 neighbours", neighbours.lowerCode(0), 1);
+        Check.same("29 neighbours", neighbours.upperCode(0), 2);
         range("equal to none", 0, 6, 2, 2);
         range("equal to less", 0, -1, 0, 0);
         range("equal to more", 0, 10, 3, 3);
@@ -225,6 +229,8 @@ final class FilterTest {
         PackedTable below = Check.loaded("table 1;-7;-9999;-3;");
         Check.same("37 below 0", below.smallestSelected(0), -9999);
         Check.same("38 below 0", below.greatestSelected(0), -3);
+        Check.same("38 alone", Check.loaded("table 1;4;3;").greatestSelected(0), 4);
+        Check.same("37 alone", Check.loaded("table 1;3;4;").smallestSelected(0), 3);
         below.deleteSelected();
         Check.notNow("37 no rows", () -> below.smallestSelected(0));
         Check.notNow("38 no rows", () -> below.greatestSelected(0));
@@ -235,6 +241,7 @@ final class FilterTest {
         Check.same("39 column 0", table.distinctSelected(0), 2);
         Check.same("39 column 1", table.distinctSelected(1), 2);
         Check.same("39 column 2", table.distinctSelected(2), 1);
+        Check.same("39 three rows", Check.loaded("table 1;1;2;3;").distinctSelected(0), 3);
         Check.same("39 empty filter", new PackedTable().distinctSelected(0), 3);
         table.setValue(0, 0, 9);
         Check.same("39 stale values don't count", table.distinctSelected(0), 2);
@@ -246,6 +253,8 @@ final class FilterTest {
         PackedTable table = filtered();
         Check.same("40 column 0", table.meanSelected(0), 19.0 / 3.0);
         Check.same("40 column 1", table.meanSelected(1), -4.0 / 3.0);
+        table.addGreater(0, 5);
+        Check.same("40 one row", table.meanSelected(0), 9.0);
         table.addLess(0, 0);
         Check.same("40 none", table.meanSelected(0), 0.0);
         table.deleteSelected();
@@ -257,6 +266,7 @@ final class FilterTest {
     private static void promise41() {
         PackedTable table = new PackedTable();
         Check.same("41 all", table.selectivity(), 1.0f);
+        Check.same("41 one row", Check.loaded("table 1;7;").selectivity(), 1.0f);
         table.addGreater(0, 1);
         Check.same("41 float division", table.selectivity(), 4.0f / 6.0f);
         table.addLess(0, 0);

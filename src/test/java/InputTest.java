@@ -127,6 +127,9 @@ final class InputTest {
         bad("Table 1;", 1, 0);
         bad(" tables 1;", 1, 1);
         bad("tabl 1;", 1, 0);
+        bad("fable 1;", 1, 0);
+        bad("tablez 1;", 1, 0);
+        bad("zzz", 1, 0);
         bad("table", 1, 5);
         bad("table ;", 1, 6);
         bad("table x;", 1, 6);
@@ -204,6 +207,8 @@ final class InputTest {
         badScript("delete", 1, 6);
         badScript("delete 1;", 1, 7);
         badScript("deleted;", 1, 0);
+        badScript("relete;", 1, 0);
+        badScript("sort 0 town;", 1, 7);
         badScript("delete;;", 1, 7);
         badScript("row 1 2;", 1, 7);
         badScript("row 1 2 3 4;", 1, 10);

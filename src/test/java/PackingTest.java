@@ -50,7 +50,14 @@ final class PackingTest {
         Check.same("17 no bits", counting(1).wordCount(0), 0);
         Check.same("17 2 bits", counting(2).wordCount(0), 1);
         Check.same("17 64 bits", counting(16).wordCount(0), 1);
-        Check.same("17 85 bits", counting(17).wordCount(0), 2);
+        PackedTable counted = counting(17);
+        Check.same("17 85 bits", counted.wordCount(0), 2);
+        for (int rows = 16; rows > 12; rows--) {
+            counted.removeRow(rows);
+        }
+        Check.same("17 65 bits", counted.wordCount(0), 2);
+        counted.removeRow(0);
+        Check.same("17 60 bits", counted.wordCount(0), 1);
         Check.same("17 360 bits", counting(60).wordCount(0), 6);
         PackedTable table = Check.loaded("table 1;" + Check.repeat("4;", 32) + "0;1;2;3;");
         Check.same("17 108 bits", table.wordCount(0), 2);

@@ -17,6 +17,7 @@ final class WhatIfTest {
         PackedTable table = new PackedTable();
         Check.same("42 new value", table.bitWidthWith(2, 5), 2);
         Check.same("42 old value", table.bitWidthWith(2, 7), 1);
+        Check.same("42 least old value", table.bitWidthWith(2, 3), 1);
         Check.same("42 fourth value", table.bitWidthWith(0, 6), 2);
         table.setValue(0, 3, 6);
         Check.same("42 stale value", table.bitWidthWith(0, 9), 2);
