@@ -96,6 +96,13 @@ final class ValuesTest {
         Check.same("12 greatest number", table.findCode(0, Integer.MAX_VALUE), -1);
         table.setValue(0, 3, 1);
         Check.same("12 stale", table.findCode(0, 9), 2);
+        table.compact(0);
+        Check.same("12 compacted", table.findCode(0, 9), -1);
+        for (int value = 10; value < 80; value++) {
+            table.setValue(0, 3, value);
+            Check.same("12 of " + value, table.findCode(0, value), value - 8);
+            Check.same("12 above " + value, table.findCode(0, value + 1), -1);
+        }
         Check.load(table, "table 1;");
         Check.same("12 empty", table.findCode(0, 0), -1);
     }
@@ -141,6 +148,8 @@ final class ValuesTest {
         Check.same("15 stale value before", table.commonestCode(0), 1);
         table.deleteSelected();
         Check.same("15 no rows", table.commonestCode(0), -1);
+        Check.load(table, "table 1;" + Check.repeat("1;2;0;", 20));
+        Check.same("15 sixty rows", table.commonestCode(0), 0);
     }
 
     private static void noSuchColumn() {

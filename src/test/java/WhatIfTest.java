@@ -89,6 +89,9 @@ final class WhatIfTest {
         Check.same("46 compacted", table.gap(), 0);
         Check.load(table, "table 1;");
         Check.same("46 empty", table.gap(), 0);
+        Check.load(table, "table 2;" + Check.repeat("1 -1;2 0;0 1;", 20));
+        Check.script(table, "less 0 2;equal 1 1;greater 1 0;");
+        Check.same("46 sixty rows", table.gap(), 0);
     }
 
     private static void noSuchColumn() {
