@@ -23,10 +23,6 @@ final class ChangesTest {
         Check.finish();
     }
 
-    private static PackedTable full() {
-        return Check.loaded("table 1;" + Check.repeat("1;", 60));
-    }
-
     private static void promise47() {
         PackedTable table = new PackedTable();
         Check.same("47 index", Check.row(table, "3 - 9999\n9999"), 6);
@@ -52,7 +48,7 @@ final class ChangesTest {
         Check.illegal("47 greatest", () -> table.addRow(Integer.MAX_VALUE));
         Check.same("47 not a change", table.undoableCount(), 0);
         Check.same("47 not emptied", table.addRow(5), 6);
-        PackedTable full = full();
+        PackedTable full = Prepared.sixtyRows();
         Check.feed(full, "1");
         Check.illegal("47 length first", () -> full.addRow(21));
         Check.notNow("47 sixty rows", () -> full.addRow(1));
@@ -83,7 +79,7 @@ final class ChangesTest {
             Check.outside("48 row " + row, () -> other.removeRow(row));
         }
         Check.same("48 no change", other.undoableCount(), 0);
-        Check.same("48 of sixty", full().removeRow(59), 59);
+        Check.same("48 of sixty", Prepared.sixtyRows().removeRow(59), 59);
     }
 
     private static void promise49() {
@@ -234,7 +230,7 @@ final class ChangesTest {
         Check.same("55 empty filter", table.deleteSelected(), 3);
         Check.same("55 no rows", table.rowCount(), 0);
         Check.same("55 without rows", table.deleteSelected(), 0);
-        Check.same("55 sixty", full().deleteSelected(), 60);
+        Check.same("55 sixty", Prepared.sixtyRows().deleteSelected(), 60);
     }
 
     private static void promise56() {

@@ -2,8 +2,18 @@
 final class Check {
     private static int passed;
     private static int failed;
+    // Stands before what a failed check says; a test that quotes the document puts its words here.
+    private static String context = "";
 
     private Check() {
+    }
+
+    static void within(String newContext) {
+        context = newContext;
+    }
+
+    static int count() {
+        return passed + failed;
     }
 
     static void same(String what, long got, long due) {
@@ -34,7 +44,7 @@ final class Check {
         fails(what, IllegalStateException.class, call);
     }
 
-    private static void fails(String what, Class<? extends RuntimeException> due, Runnable call) {
+    static void fails(String what, Class<? extends RuntimeException> due, Runnable call) {
         String got = "no exception";
         try {
             call.run();
@@ -49,7 +59,7 @@ final class Check {
             passed++;
         } else {
             failed++;
-            System.out.println(what + " answered " + got + ", due is " + due);
+            System.out.println(context + what + " answered " + got + ", due is " + due);
         }
     }
 

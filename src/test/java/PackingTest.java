@@ -16,27 +16,18 @@ final class PackingTest {
         Check.finish();
     }
 
-    /** A table of one column with the values 0 to rows - 1. */
-    private static PackedTable counting(int rows) {
-        StringBuilder text = new StringBuilder("table 1;");
-        for (int row = 0; row < rows; row++) {
-            text.append(row).append(';');
-        }
-        return Check.loaded(text.toString());
-    }
-
     private static void promise16() {
         int[] sizes = {0, 1, 2, 3, 4, 5, 8, 9, 16, 17, 32, 33, 60};
         int[] widths = {0, 0, 1, 2, 2, 3, 3, 4, 4, 5, 5, 6, 6};
         for (int place = 0; place < sizes.length; place++) {
-            Check.same("16 size " + sizes[place], counting(sizes[place]).bitWidth(0), widths[place]);
+            Check.same("16 size " + sizes[place], Prepared.counting(sizes[place]).bitWidth(0), widths[place]);
         }
-        PackedTable table = counting(2);
+        PackedTable table = Prepared.counting(2);
         table.setValue(0, 0, 5);
         Check.same("16 with stale values", table.bitWidth(0), 2);
         table.deleteSelected();
         Check.same("16 without rows", table.bitWidth(0), 2);
-        PackedTable grown = counting(60);
+        PackedTable grown = Prepared.counting(60);
         for (int value = 60; value < 64; value++) {
             grown.setValue(0, 0, value);
         }
@@ -46,11 +37,11 @@ final class PackingTest {
     }
 
     private static void promise17() {
-        Check.same("17 no rows", counting(0).wordCount(0), 0);
-        Check.same("17 no bits", counting(1).wordCount(0), 0);
-        Check.same("17 2 bits", counting(2).wordCount(0), 1);
-        Check.same("17 64 bits", counting(16).wordCount(0), 1);
-        PackedTable counted = counting(17);
+        Check.same("17 no rows", Prepared.counting(0).wordCount(0), 0);
+        Check.same("17 no bits", Prepared.counting(1).wordCount(0), 0);
+        Check.same("17 2 bits", Prepared.counting(2).wordCount(0), 1);
+        Check.same("17 64 bits", Prepared.counting(16).wordCount(0), 1);
+        PackedTable counted = Prepared.counting(17);
         Check.same("17 85 bits", counted.wordCount(0), 2);
         for (int rows = 16; rows > 12; rows--) {
             counted.removeRow(rows);
@@ -58,7 +49,7 @@ final class PackingTest {
         Check.same("17 65 bits", counted.wordCount(0), 2);
         counted.removeRow(0);
         Check.same("17 60 bits", counted.wordCount(0), 1);
-        Check.same("17 360 bits", counting(60).wordCount(0), 6);
+        Check.same("17 360 bits", Prepared.counting(60).wordCount(0), 6);
         PackedTable table = Check.loaded("table 1;" + Check.repeat("4;", 32) + "0;1;2;3;");
         Check.same("17 108 bits", table.wordCount(0), 2);
         table.deleteSelected();
@@ -73,7 +64,7 @@ final class PackingTest {
         Check.outside("18 word -1", () -> table.packedWord(0, -1));
         Check.outside("18 word 1", () -> table.packedWord(0, 1));
         Check.outside("18 greatest word", () -> table.packedWord(0, Integer.MAX_VALUE));
-        PackedTable narrow = counting(1);
+        PackedTable narrow = Prepared.counting(1);
         Check.outside("18 no words", () -> narrow.packedWord(0, 0));
         PackedTable top = Check.loaded("table 1;" + Check.repeat("0;", 15) + "15;1;2;3;4;5;6;7;8;");
         top.setValue(0, 0, 9);
@@ -81,7 +72,7 @@ final class PackingTest {
         top.setValue(0, 15, 15);
         Check.same("18 highest bits", top.packedWord(0, 0), 0xa000000000000009L);
         Check.same("18 next word", top.packedWord(0, 1), 0x87654321L);
-        PackedTable split = counting(17);
+        PackedTable split = Prepared.counting(17);
         Check.same("18 five bits", split.packedWord(0, 0), 0xc5a928398a418820L);
         Check.same("18 code over two words", split.packedWord(0, 1), 0x107b9aL);
     }
@@ -89,7 +80,7 @@ final class PackingTest {
     /** Every bit of every word by the formula of the document. */
     private static void promise18ByTheDocument() {
         for (int rows = 0; rows <= 60; rows++) {
-            PackedTable table = counting(rows);
+            PackedTable table = Prepared.counting(rows);
             for (int extra = 0; extra < rows; extra++) {
                 table.setValue(0, extra, 9000 - 37 * extra);
             }
@@ -117,7 +108,7 @@ final class PackingTest {
         Check.same("19 one row less", table.packedBits(), 30);
         table.deleteSelected();
         Check.same("19 no rows", table.packedBits(), 0);
-        Check.same("19 no width", counting(1).packedBits(), 0);
+        Check.same("19 no width", Prepared.counting(1).packedBits(), 0);
     }
 
     private static void promise20() {
@@ -127,7 +118,7 @@ final class PackingTest {
         Check.same("20 with an inserted value", table.compressionRatio(), 288.0 / (30.0 + 16.0 * 9));
         table.deleteSelected();
         Check.same("20 no rows", table.compressionRatio(), 0.0);
-        Check.same("20 one value", counting(1).compressionRatio(), 1.0);
+        Check.same("20 one value", Prepared.counting(1).compressionRatio(), 1.0);
         Check.same("20 equal values", Check.loaded("table 1;" + Check.repeat("1;", 60)).compressionRatio(), 60.0);
     }
 
@@ -140,9 +131,9 @@ final class PackingTest {
         Check.same("21 after runsIfSorted", table.runCount(0), 6);
         table.deleteSelected();
         Check.same("21 no rows", table.runCount(0), 0);
-        Check.same("21 one row", counting(1).runCount(0), 1);
+        Check.same("21 one row", Prepared.counting(1).runCount(0), 1);
         Check.same("21 one run", Check.loaded("table 1;" + Check.repeat("1;", 60)).runCount(0), 1);
-        Check.same("21 sixty runs", counting(60).runCount(0), 60);
+        Check.same("21 sixty runs", Prepared.counting(60).runCount(0), 60);
     }
 
     private static void promise22() {
@@ -168,8 +159,8 @@ final class PackingTest {
         Check.same("23 equal", Check.loaded("table 1;4;4;4;").isSorted(0), true);
         Check.same("23 last is smaller", Check.loaded("table 1;4;5;4;").isSorted(0), false);
         Check.same("23 first is greater", Check.loaded("table 1;-4;-5;").isSorted(0), false);
-        Check.same("23 one row", counting(1).isSorted(0), true);
-        Check.same("23 no rows", counting(0).isSorted(0), true);
+        Check.same("23 one row", Prepared.counting(1).isSorted(0), true);
+        Check.same("23 no rows", Prepared.counting(0).isSorted(0), true);
     }
 
     private static void noSuchColumn() {
