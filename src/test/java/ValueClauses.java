@@ -165,9 +165,9 @@ final class ValueClauses {
         });
         Clauses.promise(15, "-1 without rows", () -> {
             Check.same("an empty dictionary", Prepared.bare().commonestCode(0), -1);
-            PackedTable table = Prepared.sixtyRows();
+            PackedTable table = Check.loaded("table 1;-1;0;1;");
             table.deleteSelected();
-            Check.same("a stale value", table.commonestCode(0), -1);
+            Check.same("stale values", table.commonestCode(0), -1);
         });
         Refusals.noSuchColumn(15, (table, column) -> table.commonestCode(column));
     }
