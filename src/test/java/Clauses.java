@@ -73,7 +73,12 @@ final class Clauses {
         Check.same(section + " has \"" + beginning + "\"", isFound, true);
         int before = Check.count();
         Check.within(section + ", \"" + beginning + "\": ");
-        test.run();
+        try {
+            test.run();
+        } catch (RuntimeException e) {
+            // A broken promise must not keep the tests behind it from running.
+            Check.same("the test", e.toString(), "no exception");
+        }
         Check.same("checks", Check.count() > before, true);
         Check.within("");
     }
